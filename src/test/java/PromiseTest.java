@@ -47,6 +47,7 @@ public final class PromiseTest {
         promise35();
         promise36();
         promises37And38();
+        whenLate();
         dayLimit();
         promise39();
         promises40And41();
@@ -459,6 +460,15 @@ public final class PromiseTest {
         x.change(0, 0, 5);
         due("strong: a key", x.strong(0, 0, 4), 0);
         due("strong stays", x.tell(0, 1), 10);
+        for (int r = 3; r < 7; r++) {
+            x.door(r, r + 1, 0);
+        }
+        x.rule(0, 6);
+        x.person(0, 0, 0);
+        x.change(0, 0, 0);
+        x.change(0, 1, 0);
+        x.change(0, 2, 7);
+        due("strong: no way to a smaller house", x.strong(0, 0, 1), 7);
         due("strong BEYOND", x.strong(1, 0, 0), BEYOND);
         due("strong BEYOND", x.strong(0, 1, 0), BEYOND);
         due("strong BEYOND", x.strong(0, 0, 8), BEYOND);
@@ -597,19 +607,24 @@ public final class PromiseTest {
         due("copies SIZE", x.copies(2, 62), SIZE);
         due("copies, just below", x.copies(5, 26), 1490116119384765625L);
         due("copies SIZE", x.copies(5, 27), SIZE);
+        due("copies, the most there are", x.copies(7, 22), 3909821048582988049L);
+        due("copies SIZE, hardly", x.copies(3, 39), SIZE);
+        due("copies", x.copies(3, 38), 1350851717672992089L);
         due("copies SIZE", x.copies(9, 62), SIZE);
         due("all", x.all(3, 4), 121);
         due("all, level 0", x.all(7, 0), 1);
         due("all of one", x.all(1, 62), 63);
         due("all, just below", x.all(2, 60), 2305843009213693951L);
         due("all SIZE", x.all(2, 61), SIZE);
+        due("all, just below", x.all(3, 38), 2026277576509488133L);
+        due("all SIZE", x.all(7, 22), SIZE);
         due("all SIZE", x.all(9, 62), SIZE);
         int[][] bad = {{0, 0}, {10, 0}, {1, -1}, {1, 63}, {LEAST, MOST}};
         for (int[] b : bad) {
             due("copies BEYOND", x.copies(b[0], b[1]), BEYOND);
             due("all BEYOND", x.all(b[0], b[1]), BEYOND);
         }
-        due("findings in longs count", x.status(6), 5);
+        due("findings in longs count", x.status(6), 7);
         due("findings in longs count", x.status(0), 10);
     }
 
@@ -712,6 +727,48 @@ public final class PromiseTest {
         x.seed(7);
         x.days(1);
         due("one draw in level 4", x.count(6), after(7, 1));
+        HouseInRoom y = new HouseInRoom();
+        y.one(3);
+        y.door(2, 3, 0);
+        y.door(3, 4, 0);
+        due("days at small without things", y.days(60), 0);
+        due("one draw a day without things", y.count(6), after(1, 60));
+    }
+
+    /** Where one that stays at small reaches on a day that begins with z, with a SLIP of 50. */
+    private static int aimOf(int z) {
+        int slip = drawFrom(after(z, 3)) % 100 < 50 ? 1 : 0;
+        return (drawFrom(after(z, 2)) % 8 + slip) % 8;
+    }
+
+    /** Whether a thing comes to room 5 on day 60 first, by one shut in at small. */
+    private static boolean isLate(int seed) {
+        int z = seed;
+        for (int day = 1; day < 60; day++) {
+            if (aimOf(z) == 5) {
+                return false;
+            }
+            z = after(z, 4);
+        }
+        return aimOf(z) == 5;
+    }
+
+    private static void whenLate() {
+        int seed = 0;
+        while (seed < 10000000 && !isLate(seed)) {
+            seed++;
+        }
+        HouseInRoom x = new HouseInRoom();
+        x.one(3);
+        x.thing(0, 0);
+        x.door(2, 3, 0);
+        x.door(3, 4, 0);
+        x.rule(2, 50);
+        x.seed(seed);
+        due("when: on day 60", x.when(0, 5), 60);
+        due("when: nothing changes", x.now(1), 0);
+        x.seed(after(seed, 4));
+        due("when: on day 59 of those behind", x.when(0, 5), 59);
     }
 
     private static void promises37And38() {
@@ -859,6 +916,14 @@ public final class PromiseTest {
         due("text: a 5th one", text(x, "one"), -1);
         due("text: nothing changes", x.now(4), 3);
         due("text: no finding", x.status(-1), 0);
+        HouseInRoom y = new HouseInRoom();
+        StringBuilder many = new StringBuilder("key;key;key;key;key;key;key;key;one;one;one;one");
+        for (int i = 0; i < 12; i++) {
+            many.append(";slip").append(i % 10);
+        }
+        due("text: of 119 bytes", many.length(), 119);
+        due("text: many items", text(y, many.toString()), 24);
+        due("text: the last item", y.now(4), 1);
     }
 
     private static void fault(String text, int at) {
@@ -913,6 +978,13 @@ public final class PromiseTest {
         fault("slip 5;ch\u00e9", 7);
         fault("slip 5;key\u00e9", 10);
         fault("slip 5;{", 7);
+        fault("keyz", 0);
+        fault("key`", 3);
+        fault("akey", 0);
+        fault("xed", 0);
+        fault("slip 5/", 6);
+        fault("slip 59:", 7);
+        fault("slip 5;gate 8", 12);
         fault("slip 5;`", 7);
         fault("slip 5:", 6);
         fault("slip /", 5);
@@ -1019,6 +1091,7 @@ public final class PromiseTest {
         due("copied", x.of(1, 1), 2);
         due("copied", x.of(2, 1), 3);
         due("copy none", x.copy(0, 5, 1, 3, 0), 0);
+        due("copy all", x.copy(0, 0, 0, 0, 5), 5);
         due("copy none", x.copy(0, 6, 1, 0, 0), BEYOND);
         due("copy BEYOND", x.copy(4, 0, 1, 0, 1), BEYOND);
         due("copy BEYOND", x.copy(0, 0, -1, 0, 1), BEYOND);
@@ -1133,6 +1206,11 @@ public final class PromiseTest {
         }
         due("undo: things", x.count(1), 1);
         due("undo: people", x.count(2), 1);
+        int[] book = {0, 0, 6, 3, 1};
+        for (int what = 0; what < 5; what++) {
+            due("undo: book", x.book(books - 1, what), book[what]);
+        }
+        due("undo: book NONE", x.book(books, 0), NONE);
         due("undo: kind", x.of(0, 0), 2);
         due("undo: room", x.of(0, 1), 3);
         due("undo: bulk", x.of(0, 2), 8);
@@ -1143,7 +1221,7 @@ public final class PromiseTest {
         due("undo: not the tape", x.count(5), 1);
         due("undo: not the sheets", x.load(1), 1);
         due("undo: not the sheets", x.of(0, 1), 5);
-        due("undo: not status()", x.status(-1), 2);
+        due("undo: not status()", x.status(-1), 3);
         due("undo again", x.undo(), 3);
         due("undo again", x.of(0, 1), 3);
         x.change(0, 1, 7);
