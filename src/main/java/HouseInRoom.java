@@ -42,6 +42,9 @@ public final class HouseInRoom {
     private static final long MOST_COPIES = 4000000000000000000L;
     private static final long MOST_IN_FRACTION = 1000000000000L;
 
+    /** One place of each level: that of room 0. */
+    private static final long ALL_LEVELS = 0x0101010101L;
+    private static final int MOST_STEPS = PLACES * ROOMS;
     private static final int ANY_ROOM = -1;
     private static final int NEVER = -1;
 
@@ -635,7 +638,7 @@ public final class HouseInRoom {
             if (!isPlace(place) || (allowed >>> place & 1) == 0) {
                 return 1 + i;
             }
-            allowed = world.nextPlaces(place);
+            allowed = world.nextPlaces(1L << place);
         }
         return 0;
     }
@@ -1003,26 +1006,24 @@ public final class HouseInRoom {
             return leads ? (place / ROOMS - 1) * ROOMS + small : NEVER;
         }
 
-        /** The set of places to which one WALK, IN or OUT leads. */
-        long nextPlaces(int place) {
-            long set = (long) doors[place % ROOMS] << (place / ROOMS * ROOMS);
-            int inside = placeInside(place);
-            if (inside != NEVER) {
-                set |= 1L << inside;
+        /** The set of places to which one WALK, IN or OUT leads from any of a set of them. */
+        long nextPlaces(long set) {
+            long next = 0;
+            for (int room = 0; room < ROOMS; room++) {
+                // A product puts the rooms behind the doors into each level of which it tells.
+                next |= (set >>> room & ALL_LEVELS) * doors[room];
             }
-            int outside = placeOutside(place);
-            if (outside != NEVER) {
-                set |= 1L << outside;
-            }
-            return set;
+            next |= (set >>> small & ALL_LEVELS >>> ROOMS) << (ROOMS + gate);
+            next |= (set >>> gate & ALL_LEVELS) >>> ROOMS << small;
+            return next;
         }
 
-        /** The set of levels in which a thing weighs no more than one is strong. */
-        int lightLevels(int one, int thing) {
-            int set = 0;
+        /** The levels in which a thing weighs no more than one is strong, as places of room 0. */
+        long lightLevels(int one, int thing) {
+            long set = 0;
             for (int level = 0; level < LEVELS; level++) {
                 if (weightIn(thing, level) <= strengths[one]) {
-                    set |= 1 << level;
+                    set |= 1L << (level * ROOMS);
                 }
             }
             return set;
@@ -1143,51 +1144,37 @@ public final class HouseInRoom {
         }
     }
 
-    /** Ways of one through places, and of one and a thing through a task, by breadth. */
+    /** Ways of one through places, and of one and a thing through a task: all of a step at once. */
     private static final class Search {
-        private static final int MOST_STATES = PLACES * ROOMS;
-
-        /** States that were come to, each once: where one is, where the thing, by how many steps. */
-        private final int[] places = new int[MOST_STATES];
-        private final int[] rooms = new int[MOST_STATES];
-        private final int[] steps = new int[MOST_STATES];
-        private int length;
         /** For each room of the thing the places of one that were come to with it there. */
-        private final long[] seen = new long[ROOMS];
+        private final long[] known = new long[ROOMS];
+        /** Those of them that the latest step came to first, and what the next step comes to. */
+        private final long[] edge = new long[ROOMS];
+        private final long[] next = new long[ROOMS];
         /** For each room the fewest steps with which the thing comes there. */
         private final int[] fewest = new int[ROOMS];
 
         long placesFrom(World w, int start) {
-            long known = 1L << start;
-            long edge = known;
-            for (int i = 0; i < PLACES && edge != 0; i++) {
-                edge = nextOfAll(w, edge) & ~known;
-                known |= edge;
+            long all = 1L << start;
+            long fresh = all;
+            for (int i = 0; i < PLACES && fresh != 0; i++) {
+                fresh = w.nextPlaces(fresh) & ~all;
+                all |= fresh;
             }
-            return known;
+            return all;
         }
 
         int stepsTo(World w, int start, int goal) {
-            long known = 1L << start;
-            long edge = known;
-            for (int i = 0; i < PLACES && edge != 0; i++) {
-                if ((edge >>> goal & 1) == 1) {
+            long all = 1L << start;
+            long fresh = all;
+            for (int i = 0; i < PLACES && fresh != 0; i++) {
+                if ((fresh >>> goal & 1) == 1) {
                     return i;
                 }
-                edge = nextOfAll(w, edge) & ~known;
-                known |= edge;
+                fresh = w.nextPlaces(fresh) & ~all;
+                all |= fresh;
             }
             return NEVER;
-        }
-
-        private static long nextOfAll(World w, long set) {
-            long next = 0;
-            for (int place = 0; place < PLACES; place++) {
-                if ((set >>> place & 1) == 1) {
-                    next |= w.nextPlaces(place);
-                }
-            }
-            return next;
         }
 
         /** The fewest steps for a task, or NEVER. */
@@ -1209,83 +1196,76 @@ public final class HouseInRoom {
         }
 
         private void explore(World w, int one, int thing, int goal, boolean reaching) {
-            length = 0;
-            Arrays.fill(seen, 0L);
+            Arrays.fill(known, 0L);
+            Arrays.fill(next, 0L);
             Arrays.fill(fewest, NEVER);
-            int light = w.lightLevels(one, thing);
-            add(w.places[one], w.rooms[thing], 0);
-            for (int i = 0; i < length && i < MOST_STATES; i++) {
-                if (goal != ANY_ROOM && fewest[goal] != NEVER) {
+            next[w.rooms[thing]] = 1L << w.places[one];
+            long light = w.lightLevels(one, thing);
+            for (int step = 0; step < MOST_STEPS; step++) {
+                boolean goesOn = settle(step);
+                if (!goesOn || (goal != ANY_ROOM && fewest[goal] != NEVER)) {
                     return;
                 }
-                int room = places[i] % ROOMS;
-                int level = places[i] / ROOMS;
-                addAll(w.nextPlaces(places[i]), rooms[i], steps[i] + 1);
-                if (rooms[i] == room && (light >> level & 1) == 1) {
-                    addCarried(w.doors[room], level, steps[i] + 1);
-                }
-                // Nothing is light below the lowest level, so nobody reaches in from there.
-                if (reaching && room == w.small && (light >> (level + 1) & 1) == 1) {
-                    addReached(places[i], steps[i] + 1);
+                for (int room = 0; room < ROOMS; room++) {
+                    if (edge[room] != 0) {
+                        spread(w, room, light, reaching);
+                    }
                 }
             }
         }
 
-        private void addAll(long nextPlaces, int room, int step) {
-            long fresh = nextPlaces & ~seen[room];
-            for (int place = 0; place < PLACES && fresh != 0; place++) {
-                if ((fresh >>> place & 1) == 1) {
-                    add(place, room, step);
-                    fresh &= ~(1L << place);
-                }
-            }
-        }
-
-        private void addCarried(int nextRooms, int level, int step) {
+        /** Makes what the latest step came to known: whether any of it is new. */
+        private boolean settle(int step) {
+            boolean isNew = false;
             for (int room = 0; room < ROOMS; room++) {
-                if ((nextRooms >> room & 1) == 1) {
-                    add(level * ROOMS + room, room, step);
+                edge[room] = next[room] & ~known[room];
+                known[room] |= edge[room];
+                next[room] = 0;
+                if (edge[room] != 0) {
+                    isNew = true;
+                    if (fewest[room] == NEVER) {
+                        fewest[room] = step;
+                    }
                 }
             }
+            return isNew;
         }
 
-        private void addReached(int place, int step) {
-            for (int room = 0; room < ROOMS; room++) {
-                add(place, room, step);
-            }
-        }
-
-        private void add(int place, int room, int step) {
-            if ((seen[room] >>> place & 1) == 1 || length >= MOST_STATES) {
-                return;
-            }
-            seen[room] |= 1L << place;
-            places[length] = place;
-            rooms[length] = room;
-            steps[length] = step;
-            length++;
-            if (fewest[room] == NEVER) {
-                fewest[room] = step;
+        /** One step more from all places of the edge with the thing in a room. */
+        private void spread(World w, int room, long light, boolean reaching) {
+            next[room] |= w.nextPlaces(edge[room]);
+            long carrying = edge[room] >>> room & light;
+            // Whoever reaches in feels what the thing weighs one level below.
+            long reaches = reaching ? edge[room] >>> w.small & light >>> ROOMS : 0;
+            for (int to = 0; to < ROOMS; to++) {
+                if (w.isOpen(room, to)) {
+                    next[to] |= carrying << to;
+                }
+                next[to] |= reaches << w.small;
             }
         }
     }
 
-    /** Bytes, and the token of them at which a reader stands. */
+    /** Bytes, and the tokens of which they are, each as long as can be. */
     private static final class Tape {
         static final int MOST_BYTES = 120;
+
         static final int END = 0;
         static final int WORD = 1;
         static final int NUMBER = 2;
         static final int SIGN = 3;
-        static final int OTHER = 4;
+        static final int BLANK = 4;
+        static final int OTHER = 5;
+
         private static final int MOST_NUMBER = 999;
 
         private final int[] bytes = new int[MOST_BYTES];
         int length;
-        int token;
-        int begin;
-        int number;
-        private int end;
+        /** Of each token what it is, what it tells and where it begins; behind the last one END. */
+        private final int[] kinds = new int[MOST_BYTES + 1];
+        private final int[] values = new int[MOST_BYTES + 1];
+        private final int[] begins = new int[MOST_BYTES + 1];
+        private int tokens;
 
         void append(int word, int n) {
             for (int i = n - 1; i >= 0; i--) {
@@ -1296,61 +1276,148 @@ public final class HouseInRoom {
             }
         }
 
-        void start() {
-            end = 0;
-            next();
+        void split() {
+            tokens = 0;
+            int at = 0;
+            for (int i = 0; i < MOST_BYTES && at < length; i++) {
+                int end = endOf(at);
+                int kind = kindOf(bytes[at]);
+                if (kind != BLANK) {
+                    addToken(kind, valueOf(kind, at, end), at);
+                }
+                at = end;
+            }
+            addToken(END, 0, length);
         }
 
-        /** Goes on to the next token, that is as long as can be. */
-        void next() {
-            begin = end;
-            while (begin < length && bytes[begin] == ' ') {
-                begin++;
+        int kindAt(int token) {
+            return token >= 0 && token < tokens ? kinds[token] : END;
+        }
+
+        int beginAt(int token) {
+            return token >= 0 && token < tokens ? begins[token] : length;
+        }
+
+        /** The word (of Words), or NEVER. */
+        int wordAt(int token) {
+            boolean isWord = token >= 0 && token < tokens && kinds[token] == WORD;
+            return isWord ? values[token] : NEVER;
+        }
+
+        /** The number, or NEVER. */
+        int numberAt(int token) {
+            boolean isNumber = token >= 0 && token < tokens && kinds[token] == NUMBER;
+            return isNumber ? values[token] : NEVER;
+        }
+
+        private void addToken(int kind, int value, int begin) {
+            if (tokens > MOST_BYTES) {
+                return;
             }
-            end = begin;
-            if (begin >= length) {
-                token = END;
-            } else if (isLetter(bytes[begin])) {
-                token = WORD;
-                while (end < length && isLetter(bytes[end])) {
+            kinds[tokens] = kind;
+            values[tokens] = value;
+            begins[tokens] = begin;
+            tokens++;
+        }
+
+        private int endOf(int begin) {
+            int kind = kindOf(bytes[begin]);
+            int end = begin + 1;
+            if (kind == WORD || kind == NUMBER) {
+                while (end < length && kindOf(bytes[end]) == kind) {
                     end++;
                 }
-            } else if (isDigit(bytes[begin])) {
-                token = NUMBER;
-                takeNumber();
-            } else {
-                token = bytes[begin] == ';' ? SIGN : OTHER;
-                end = begin + 1;
+            }
+            return end;
+        }
+
+        private static int kindOf(int sign) {
+            if (sign >= 'a' && sign <= 'z') {
+                return WORD;
+            }
+            if (sign >= '0' && sign <= '9') {
+                return NUMBER;
+            }
+            if (sign == ';') {
+                return SIGN;
+            }
+            return sign == ' ' ? BLANK : OTHER;
+        }
+
+        private int valueOf(int kind, int begin, int end) {
+            switch (kind) {
+                case WORD: return wordIn(begin, end);
+                case NUMBER: return numberIn(begin, end);
+                default: return 0;
             }
         }
 
-        private void takeNumber() {
-            number = 0;
-            while (end < length && isDigit(bytes[end])) {
-                // One more than the most stands for all that is more.
-                number = Math.min(number * 10 + bytes[end] - '0', MOST_NUMBER + 1);
-                end++;
+        private int wordIn(int begin, int end) {
+            for (int word = 0; word < Words.COUNT; word++) {
+                if (isWordIn(Words.nameOf(word), begin, end)) {
+                    return word;
+                }
             }
+            return NEVER;
         }
 
-        boolean isWord(String word) {
-            if (token != WORD || end - begin != word.length()) {
+        private boolean isWordIn(String name, int begin, int end) {
+            if (name.length() != end - begin) {
                 return false;
             }
-            for (int i = 0; i < word.length(); i++) {
-                if (bytes[begin + i] != word.charAt(i)) {
+            for (int i = 0; i < end - begin; i++) {
+                if (bytes[begin + i] != name.charAt(i)) {
                     return false;
                 }
             }
             return true;
         }
 
-        private static boolean isLetter(int sign) {
-            return sign >= 'a' && sign <= 'z';
+        private int numberIn(int begin, int end) {
+            int number = 0;
+            for (int i = begin; i < end; i++) {
+                // One more than the most stands for all that is more.
+                number = Math.min(number * 10 + bytes[i] - '0', MOST_NUMBER + 1);
+            }
+            return number;
         }
+    }
 
-        private static boolean isDigit(int sign) {
-            return sign >= '0' && sign <= '9';
+    /** The words of a text: those of the kinds by their numbers, and others behind them. */
+    private static final class Words {
+        static final int ONE = 7;
+        static final int OPEN = 8;
+        static final int SHUT = 9;
+        static final int SMALL = 10;
+        static final int GATE = 11;
+        static final int SLIP = 12;
+        static final int IN = 13;
+        static final int BULK = 14;
+        static final int LEVEL = 15;
+        static final int STRONG = 16;
+        static final int COUNT = 17;
+
+        static String nameOf(int word) {
+            switch (word) {
+                case Kinds.THING: return "thing";
+                case Kinds.CHAIR: return "chair";
+                case Kinds.TABLE: return "table";
+                case Kinds.BED: return "bed";
+                case Kinds.LETTER: return "letter";
+                case Kinds.KEY: return "key";
+                case Kinds.LAMP: return "lamp";
+                case ONE: return "one";
+                case OPEN: return "open";
+                case SHUT: return "shut";
+                case SMALL: return "small";
+                case GATE: return "gate";
+                case SLIP: return "slip";
+                case IN: return "in";
+                case BULK: return "bulk";
+                case LEVEL: return "level";
+                case STRONG: return "strong";
+                default: return "";
+            }
         }
     }
 
@@ -1368,9 +1435,12 @@ public final class HouseInRoom {
         final int[] items = new int[MOST_ITEMS * ITEM_SIZE];
         int count;
         private final Tape tape;
+        /** The token that is to be read. */
+        private int at;
         private int things;
         private int people;
-        private int fault;
+        /** The first token that can't stand where it is, or NEVER. */
+        private int wrong;
 
         TextReader(Tape from) {
             tape = from;
@@ -1381,59 +1451,36 @@ public final class HouseInRoom {
             things = thingsBefore;
             people = peopleBefore;
             count = 0;
-            fault = NEVER;
-            tape.start();
+            at = 0;
+            wrong = NEVER;
+            tape.split();
             boolean goesOn = true;
             for (int i = 0; i <= Tape.MOST_BYTES && goesOn; i++) {
                 parseItem();
-                goesOn = fault == NEVER && tape.token != Tape.END;
+                goesOn = wrong == NEVER && tape.kindAt(at) != Tape.END;
                 if (goesOn) {
                     takeSign();
                 }
             }
-            return fault;
+            return wrong == NEVER ? NEVER : tape.beginAt(wrong);
         }
 
         private void parseItem() {
-            int kind = kindNamed();
-            if (kind != NEVER) {
-                parseThing(kind);
-            } else if (tape.isWord("one")) {
-                parseOne();
-            } else if (tape.isWord("open")) {
-                parseDoor(1);
-            } else if (tape.isWord("shut")) {
-                parseDoor(0);
-            } else if (tape.isWord("small")) {
-                parseRule(0, ROOMS - 1);
-            } else if (tape.isWord("gate")) {
-                parseRule(1, ROOMS - 1);
-            } else if (tape.isWord("slip")) {
-                parseRule(2, MOST_SLIP);
-            } else {
-                refuse();
-            }
-        }
-
-        /** The kind that the token names, or NEVER. */
-        private int kindNamed() {
-            for (int kind = 0; kind < KINDS; kind++) {
-                if (tape.isWord(nameOf(kind))) {
-                    return kind;
-                }
-            }
-            return NEVER;
-        }
-
-        private static String nameOf(int kind) {
-            switch (kind) {
-                case Kinds.CHAIR: return "chair";
-                case Kinds.TABLE: return "table";
-                case Kinds.BED: return "bed";
-                case Kinds.LETTER: return "letter";
-                case Kinds.KEY: return "key";
-                case Kinds.LAMP: return "lamp";
-                default: return "thing";
+            int word = tape.wordAt(at);
+            switch (word) {
+                case Words.ONE: parseOne(); break;
+                case Words.OPEN: parseDoor(1); break;
+                case Words.SHUT: parseDoor(0); break;
+                case Words.SMALL: parseRule(0, ROOMS - 1); break;
+                case Words.GATE: parseRule(1, ROOMS - 1); break;
+                case Words.SLIP: parseRule(2, MOST_SLIP); break;
+                default:
+                    if (isKind(word)) {
+                        parseThing(word);
+                    } else {
+                        refuse();
+                    }
+                    break;
             }
         }
 
@@ -1443,9 +1490,9 @@ public final class HouseInRoom {
                 return;
             }
             things++;
-            tape.next();
-            int room = takePerhaps("in", 0, ROOMS - 1, 0);
-            int bulk = takePerhaps("bulk", 1, MOST_BULK, FIRST_BULK);
+            at++;
+            int room = takePerhaps(Words.IN, 0, ROOMS - 1, 0);
+            int bulk = takePerhaps(Words.BULK, 1, MOST_BULK, FIRST_BULK);
             addItem(NEW_THING, kind, room, bulk);
         }
 
@@ -1455,57 +1502,56 @@ public final class HouseInRoom {
                 return;
             }
             people++;
-            tape.next();
-            int room = takePerhaps("in", 0, ROOMS - 1, 0);
-            int level = takePerhaps("level", 0, LEVELS - 1, 0);
-            int strength = takePerhaps("strong", 0, MOST_STRONG, FIRST_STRONG);
+            at++;
+            int room = takePerhaps(Words.IN, 0, ROOMS - 1, 0);
+            int level = takePerhaps(Words.LEVEL, 0, LEVELS - 1, 0);
+            int strength = takePerhaps(Words.STRONG, 0, MOST_STRONG, FIRST_STRONG);
             addItem(NEW_ONE, level * ROOMS + room, strength, 0);
         }
 
         private void parseDoor(int open) {
-            tape.next();
+            at++;
             int a = takeNumber(0, ROOMS - 1, NEVER);
             int b = takeNumber(0, ROOMS - 1, a);
             addItem(NEW_DOOR, a, b, open);
         }
 
         private void parseRule(int what, int most) {
-            tape.next();
+            at++;
             int v = takeNumber(0, most, NEVER);
             addItem(NEW_RULE, what, v, 0);
         }
 
-        private int takePerhaps(String word, int least, int most, int otherwise) {
-            if (fault != NEVER || !tape.isWord(word)) {
+        private int takePerhaps(int word, int least, int most, int otherwise) {
+            if (tape.wordAt(at) != word) {
                 return otherwise;
             }
-            tape.next();
+            at++;
             return takeNumber(least, most, NEVER);
         }
 
         /** Takes a number from least to most that is not the barred one. */
         private int takeNumber(int least, int most, int barred) {
-            int v = tape.number;
-            if (tape.token != Tape.NUMBER || v < least || v > most || v == barred) {
+            int v = tape.numberAt(at);
+            if (!isWithin(v, least, most) || v == barred) {
                 refuse();
                 return least;
             }
-            tape.next();
+            at++;
             return v;
         }
 
         private void takeSign() {
-            if (tape.token != Tape.SIGN) {
+            if (tape.kindAt(at) != Tape.SIGN) {
                 refuse();
                 return;
             }
-            tape.next();
+            at++;
         }
 
-        /** The token can't stand where it is; only the first such one counts. */
         private void refuse() {
-            if (fault == NEVER) {
-                fault = tape.begin;
+            if (wrong == NEVER) {
+                wrong = at;
             }
         }
 
@@ -1513,11 +1559,11 @@ public final class HouseInRoom {
             if (count >= MOST_ITEMS) {
                 return;
             }
-            int at = count * ITEM_SIZE;
-            items[at] = what;
-            items[at + 1] = a;
-            items[at + 2] = b;
-            items[at + 3] = c;
+            int row = count * ITEM_SIZE;
+            items[row] = what;
+            items[row + 1] = a;
+            items[row + 2] = b;
+            items[row + 3] = c;
             count++;
         }
     }
