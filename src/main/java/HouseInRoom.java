@@ -1261,10 +1261,10 @@ public final class HouseInRoom {
 
         private final int[] bytes = new int[MOST_BYTES];
         int length;
-        /** Of each token what it is, what it tells and where it begins; behind the last one END. */
-        private final int[] kinds = new int[MOST_BYTES + 1];
-        private final int[] values = new int[MOST_BYTES + 1];
-        private final int[] begins = new int[MOST_BYTES + 1];
+        /** Of each token what it is, what it tells and where it begins. */
+        private final int[] kinds = new int[MOST_BYTES];
+        private final int[] values = new int[MOST_BYTES];
+        private final int[] begins = new int[MOST_BYTES];
         private int tokens;
 
         void append(int word, int n) {
@@ -1287,9 +1287,9 @@ public final class HouseInRoom {
                 }
                 at = end;
             }
-            addToken(END, 0, length);
         }
 
+        /** What a token is; behind the last one END. */
         int kindAt(int token) {
             return token >= 0 && token < tokens ? kinds[token] : END;
         }
@@ -1311,7 +1311,7 @@ public final class HouseInRoom {
         }
 
         private void addToken(int kind, int value, int begin) {
-            if (tokens > MOST_BYTES) {
+            if (tokens >= MOST_BYTES) {
                 return;
             }
             kinds[tokens] = kind;

@@ -978,6 +978,8 @@ public final class PromiseTest {
         fault("slip 5;ch\u00e9", 7);
         fault("slip 5;key\u00e9", 10);
         fault("slip 5;{", 7);
+        fault("key" + ";".repeat(117), 4);
+        fault("; ".repeat(60), 0);
         fault("keyz", 0);
         fault("key`", 3);
         fault("akey", 0);
@@ -1170,6 +1172,9 @@ public final class PromiseTest {
         x.one(3);
         x.thing(2, 6);
         x.reach(0, 0, 3);
+        for (int room = 0; room < 6; room++) {
+            x.reach(0, 0, room);
+        }
         x.days(3);
         x.hold(4, 0);
         x.person(0, 0, 3);
@@ -1190,7 +1195,8 @@ public final class PromiseTest {
         x.change(0, 2, 1);
         x.person(0, 0, 1);
         x.person(0, 1, 59);
-        x.reach(0, 0, 0);
+        x.rule(0, 1);
+        due("reach, not to be kept", x.reach(0, 0, 0), 1);
         x.days(60);
         x.hold(4, -1);
         x.seed(99);
