@@ -54,8 +54,7 @@ public final class HouseInRoom {
     private final World trial = new World();
     private boolean keeps;
     private final Search search = new Search();
-    private final Tape tape = new Tape();
-    private final TextReader reader = new TextReader(tape);
+    private final TextReader reader = new TextReader();
     private final Sheet[] sheets = new Sheet[SHEETS];
     private final int[] tallies = new int[FINDINGS];
 
@@ -512,22 +511,22 @@ public final class HouseInRoom {
         if (!isWithin(n, 1, 4)) {
             return finding(BEYOND);
         }
-        if (tape.length + n > Tape.MOST_BYTES) {
+        if (reader.tape.length + n > Tape.MOST_BYTES) {
             return finding(FULL);
         }
-        tape.append(bytes, n);
-        return tape.length;
+        reader.tape.append(bytes, n);
+        return reader.tape.length;
     }
 
     public int wipe() {
-        int had = tape.length;
-        tape.length = 0;
+        int had = reader.tape.length;
+        reader.tape.length = 0;
         return had;
     }
 
     public int text() {
         int fault = reader.parse(world.things, world.people);
-        tape.length = 0;
+        reader.tape.length = 0;
         if (fault != NEVER) {
             return -1 - fault;
         }
@@ -672,7 +671,7 @@ public final class HouseInRoom {
             case 2: return world.people;
             case 3: return world.moves;
             case 4: return world.met;
-            case 5: return tape.length;
+            case 5: return reader.tape.length;
             case 6: return world.z;
             case 7: return world.fullSpots();
             default: return finding(BEYOND);
@@ -853,7 +852,9 @@ public final class HouseInRoom {
                 doors[r] |= 1 << (r + 1);
                 doors[r + 1] |= 1 << r;
             }
-            Arrays.fill(spots, NOTHING);
+            for (int spot = 0; spot < SPOTS; spot++) {
+                spots[spot] = NOTHING;
+            }
         }
 
         void become(World other) {
@@ -1421,7 +1422,7 @@ public final class HouseInRoom {
         }
     }
 
-    /** Reads a tape as a text, and keeps what its items tell until they are made so. */
+    /** Reads its tape as a text, and keeps what its items tell until they are made so. */
     private static final class TextReader {
         static final int ITEM_SIZE = 4;
         static final int NEW_THING = 0;
@@ -1431,20 +1432,16 @@ public final class HouseInRoom {
         /** The shortest items are words of three letters, with a sign between them. */
         private static final int MOST_ITEMS = (Tape.MOST_BYTES + 1) / 4;
 
+        final Tape tape = new Tape();
         /** What each item does (NEW_THING to NEW_RULE), and three numbers that it tells. */
         final int[] items = new int[MOST_ITEMS * ITEM_SIZE];
         int count;
-        private final Tape tape;
         /** The token that is to be read. */
         private int at;
         private int things;
         private int people;
         /** The first token that can't stand where it is, or NEVER. */
         private int wrong;
-
-        TextReader(Tape from) {
-            tape = from;
-        }
 
         /** The fault of the tape, or NEVER: then the items stand ready. */
         int parse(int thingsBefore, int peopleBefore) {
