@@ -1,21 +1,18 @@
-import com.sun.source.tree.AssignmentTree;
 import com.sun.source.tree.BinaryTree;
 import com.sun.source.tree.BlockTree;
 import com.sun.source.tree.ClassTree;
 import com.sun.source.tree.CompilationUnitTree;
 import com.sun.source.tree.CompoundAssignmentTree;
+import com.sun.source.tree.DoWhileLoopTree;
 import com.sun.source.tree.ExpressionTree;
 import com.sun.source.tree.ForLoopTree;
 import com.sun.source.tree.IdentifierTree;
+import com.sun.source.tree.LiteralTree;
+import com.sun.source.tree.MemberSelectTree;
 import com.sun.source.tree.MethodInvocationTree;
 import com.sun.source.tree.MethodTree;
-import com.sun.source.tree.NewArrayTree;
 import com.sun.source.tree.NewClassTree;
-import com.sun.source.tree.ParenthesizedTree;
-import com.sun.source.tree.StatementTree;
 import com.sun.source.tree.Tree;
-import com.sun.source.tree.TypeCastTree;
-import com.sun.source.tree.UnaryTree;
 import com.sun.source.tree.VariableTree;
 import com.sun.source.tree.WhileLoopTree;
 import com.sun.source.util.JavacTask;
@@ -30,37 +27,58 @@ import java.util.List;
 import java.util.Map;
 import java.util.Set;
 import java.util.TreeMap;
+import java.util.regex.Pattern;
 import javax.lang.model.element.Element;
 import javax.lang.model.element.ElementKind;
+import javax.lang.model.element.ExecutableElement;
 import javax.lang.model.element.Modifier;
+import javax.lang.model.element.NestingKind;
+import javax.lang.model.element.TypeElement;
 import javax.lang.model.type.TypeMirror;
 import javax.tools.JavaCompiler;
 import javax.tools.StandardJavaFileManager;
 import javax.tools.ToolProvider;
 
 /**
- * Rules of LANGUAGE.md that the compiler's trees show: what of the library is called (4), no static
- * state (5), no forbidden statement (6), divisors (7), no recursion (8), the ends of loops (9), no
- * texts joined by + (10), how deep calls go and how long methods are (11), where objects are made (12).
+ * Those of the rules 2 to 12 of LANGUAGE.md that the compiler's trees of the program show: what is of
+ * the library, of which types all is, and what stands there that may not.
  */
 public final class RulesTest extends TreePathScanner<Void, Void> {
     private static final Path PROGRAM = Path.of("src/main/java/HouseInRoom.java");
+    /** Calls below the public one. */
     private static final int MOST_DEPTH = 8;
-    private static final int MOST_LINES = 60;
-    private static final Set<String> LIBRARY = Set.of("java.util.Arrays.fill",
-            "java.lang.System.arraycopy", "java.lang.Math.min", "java.lang.String.length",
-            "java.lang.String.charAt");
+    /** What LANGUAGE.md calls some sixty lines, some twelve classes, some twenty fields. */
+    private static final int MOST_LINES = 66;
+    private static final int MOST_CLASSES = 13;
+    private static final int MOST_FIELDS = 22;
+    private static final int MOST_PARAMETERS = 7;
+
+    private static final Pattern LIBRARY = Pattern.compile(
+            "String\\.(length|charAt|isEmpty|equals|indexOf|substring|toCharArray)\\(.*"
+            + "|String\\(char\\[\\]\\)|StringBuilder\\(.*|ArrayList(<.*>)?\\(.*"
+            + "|StringBuilder\\.append\\((char|int|java\\.lang\\.String)\\)"
+            + "|StringBuilder\\.(charAt|setCharAt|setLength|deleteCharAt|reverse|length|toString)\\(.*"
+            + "|(ArrayList|List)\\.(<E>)?(add|get|set|remove|size|isEmpty|clear|of)\\(.*"
+            + "|(Integer|Long|Math)\\.\\w+(?<!Exact)\\(((int|long),?)*\\)"
+            + "|System\\.arraycopy\\(.*|Arrays\\.(copyOf|copyOfRange|fill)\\(.*"
+            + "|Array\\.clone\\(\\)|Iterator\\.(hasNext|next)\\(.*|Enum\\.(ordinal|values)\\(.*");
+    private static final Pattern TYPE = Pattern.compile(
+            "void|(int|long|short|byte|char|boolean|double|float)(\\[\\]){0,2}"
+            + "|java\\.lang\\.(String|StringBuilder|Integer)"
+            + "|java\\.util\\.(ArrayList|List|Iterator)<.*>|java\\.lang\\.(Iterable|Comparable)<.*>"
+            + "|[A-Z]\\w*(\\[\\])?|HouseInRoom(\\.\\w+)?(<.*>)?(\\[\\])?");
+    private static final Pattern CONSTANT =
+            Pattern.compile("int|long|boolean|char|java\\.lang\\.String|(int|long|char|byte)\\[\\]");
     private static final Set<Tree.Kind> FORBIDDEN = EnumSet.of(Tree.Kind.THROW, Tree.Kind.TRY,
             Tree.Kind.CATCH, Tree.Kind.SYNCHRONIZED, Tree.Kind.ASSERT, Tree.Kind.LAMBDA_EXPRESSION,
-            Tree.Kind.MEMBER_REFERENCE, Tree.Kind.SWITCH_EXPRESSION, Tree.Kind.ANNOTATION,
-            Tree.Kind.INTERFACE, Tree.Kind.ENUM, Tree.Kind.RECORD, Tree.Kind.INSTANCE_OF);
-    /** The only divisors that are no constants: h is 1 to 9, things is looked at ahead of it. */
-    private static final Set<String> DIVISORS = Set.of("h", "things");
+            Tree.Kind.MEMBER_REFERENCE);
 
     private final CompilationUnitTree unit;
     private final Trees trees;
     private final Map<String, Set<String>> calls = new TreeMap<>();
     private final List<String> wrongs = new ArrayList<>();
+    private int classes;
+    /** The method that is looked at, or null in a class outside of all methods. */
     private MethodTree method;
     private String name = "";
 
@@ -78,9 +96,9 @@ public final class RulesTest extends TreePathScanner<Void, Void> {
         task.analyze();
         RulesTest test = new RulesTest(unit, Trees.instance(task));
         test.scan(new TreePath(unit), null);
-        test.require(test.calls.size() > 50, unit, "so few methods were seen");
+        test.require(test.classes <= MOST_CLASSES, unit, "rule 11: " + test.classes + " classes");
         for (String from : test.calls.keySet()) {
-            test.depth(from, new ArrayList<>());
+            test.depthBelow(from, new ArrayList<>());
         }
         test.wrongs.forEach(System.out::println);
         System.out.println(test.wrongs.isEmpty() ? "RulesTest: all rules are kept"
@@ -101,20 +119,13 @@ public final class RulesTest extends TreePathScanner<Void, Void> {
         return trees.getElement(new TreePath(getCurrentPath(), tree));
     }
 
-    private boolean isField(Tree tree) {
-        Element e = elementOf(tree);
-        return e != null && e.getKind() == ElementKind.FIELD
-                && !e.getModifiers().contains(Modifier.STATIC);
-    }
-
-    private boolean isNumber(Tree tree) {
+    private String typeOf(Tree tree) {
         TypeMirror type = trees.getTypeMirror(new TreePath(getCurrentPath(), tree));
-        return type != null && type.getKind().isPrimitive();
+        return type == null ? "" : type.toString();
     }
 
-    /** Whether what is scanned is done while an object is made. */
-    private boolean isMaking() {
-        return method == null || method.getName().contentEquals("<init>");
+    private boolean isText(Tree tree) {
+        return typeOf(tree).equals("java.lang.String");
     }
 
     @Override
@@ -127,6 +138,14 @@ public final class RulesTest extends TreePathScanner<Void, Void> {
 
     @Override
     public Void visitClass(ClassTree tree, Void p) {
+        classes++;
+        TypeElement e = (TypeElement) trees.getElement(getCurrentPath());
+        boolean isWhole = e.getNestingKind() == NestingKind.TOP_LEVEL;
+        require(isWhole || e.getNestingKind() == NestingKind.MEMBER
+                && e.getModifiers().contains(Modifier.STATIC), tree, "rule 2: " + e + " is not static");
+        long fields = e.getEnclosedElements().stream().filter(f -> f.getKind() == ElementKind.FIELD
+                && !f.getModifiers().contains(Modifier.STATIC)).count();
+        require(fields <= MOST_FIELDS, tree, "rule 11: " + e + " has " + fields + " fields");
         MethodTree outside = method;
         method = null;
         super.visitClass(tree, p);
@@ -141,16 +160,39 @@ public final class RulesTest extends TreePathScanner<Void, Void> {
     }
 
     @Override
+    public Void visitVariable(VariableTree tree, Void p) {
+        Element e = trees.getElement(getCurrentPath());
+        String type = e.asType().toString();
+        require(TYPE.matcher(type).matches(), tree, "rule 3: " + tree);
+        if (e.getKind() == ElementKind.FIELD && e.getModifiers().contains(Modifier.STATIC)) {
+            boolean isValues = type.startsWith("HouseInRoom.") && type.endsWith("[]");
+            require(e.getModifiers().contains(Modifier.FINAL)
+                    && (CONSTANT.matcher(type).matches() || isValues), tree, "rule 5: " + tree);
+        }
+        return super.visitVariable(tree, p);
+    }
+
+    @Override
+    public Void visitLiteral(LiteralTree tree, Void p) {
+        boolean isText = tree.getValue() instanceof String || tree.getValue() instanceof Character;
+        require(!isText || tree.getValue().toString().chars().allMatch(s -> s >= 1 && s <= 127)
+                || tree.getValue().equals('\0'), tree, "rule 4: " + tree);
+        return super.visitLiteral(tree, p);
+    }
+
+    @Override
     public Void visitMethod(MethodTree tree, Void p) {
         method = tree;
-        Element e = trees.getElement(getCurrentPath());
+        ExecutableElement e = (ExecutableElement) trees.getElement(getCurrentPath());
         name = e.getEnclosingElement() + "." + e;
         calls.put(name, new HashSet<>());
+        require(tree.getParameters().size() <= MOST_PARAMETERS, tree, "rule 11: parameters of " + name);
+        require(TYPE.matcher(e.getReturnType().toString()).matches(), tree, "rule 3: " + name);
         long begin = trees.getSourcePositions().getStartPosition(unit, tree);
         long end = trees.getSourcePositions().getEndPosition(unit, tree);
         if (end >= 0) {
-            long lines = unit.getLineMap().getLineNumber(end) - unit.getLineMap().getLineNumber(begin);
-            require(lines < MOST_LINES, tree, "rule 11: " + name + " has " + (lines + 1) + " lines");
+            long lines = 1 + unit.getLineMap().getLineNumber(end) - unit.getLineMap().getLineNumber(begin);
+            require(lines <= MOST_LINES, tree, "rule 11: " + name + " has " + lines + " lines");
         }
         super.visitMethod(tree, p);
         method = null;
@@ -160,157 +202,117 @@ public final class RulesTest extends TreePathScanner<Void, Void> {
     @Override
     public Void visitMethodInvocation(MethodInvocationTree tree, Void p) {
         Element e = elementOf(tree.getMethodSelect());
-        String owner = e.getEnclosingElement().toString();
-        if (!e.getSimpleName().contentEquals("<init>")) {
-            if (owner.startsWith("java")) {
-                require(LIBRARY.contains(owner + "." + e.getSimpleName()), tree, "rule 4: " + tree);
-            } else {
-                require(!isMaking(), tree, "rule 12: " + tree + " while an object is made");
-            }
-            if (method != null) {
+        boolean isConstructor = e.getKind() == ElementKind.CONSTRUCTOR;
+        if (!isConstructor) {
+            String owner = e.getEnclosingElement().toString();
+            String called = e.getEnclosingElement().getSimpleName() + "." + e;
+            boolean isOwn = owner.startsWith("HouseInRoom");
+            require(isOwn || LIBRARY.matcher(called).matches(), tree, "rule 4: " + called);
+            if (method != null && isOwn) {
                 calls.get(name).add(owner + "." + e);
             }
+            require(!isOwn || !isMaking() || !canBeOverridden(e), tree,
+                    "rule 12: a constructor calls " + called);
+            requireNothingHandedOut(isOwn, tree.getArguments());
         }
-        requireOwn(tree.getArguments());
         return super.visitMethodInvocation(tree, p);
     }
 
     @Override
     public Void visitNewClass(NewClassTree tree, Void p) {
-        require(isMaking(), tree, "more than rule 12: a call makes " + tree);
-        requireOwn(tree.getArguments());
+        Element e = elementOf(tree);
+        boolean isOwn = e == null || e.getEnclosingElement().toString().startsWith("HouseInRoom");
+        require(isOwn || LIBRARY.matcher(e.toString()).matches(), tree, "rule 4: " + tree);
+        requireNothingHandedOut(isOwn, tree.getArguments());
         return super.visitNewClass(tree, p);
     }
 
-    @Override
-    public Void visitNewArray(NewArrayTree tree, Void p) {
-        require(isMaking(), tree, "more than rule 12: a call makes " + tree);
-        return super.visitNewArray(tree, p);
+    /** Whether what is looked at is done while an object is made. */
+    private boolean isMaking() {
+        return method == null || method.getName().contentEquals("<init>");
     }
 
-    /** While an object is made, nothing of it goes anywhere else. */
-    private void requireOwn(List<? extends ExpressionTree> arguments) {
+    private static boolean canBeOverridden(Element e) {
+        Set<Modifier> m = e.getModifiers();
+        return !m.contains(Modifier.PRIVATE) && !m.contains(Modifier.STATIC) && !m.contains(Modifier.FINAL)
+                && !e.getEnclosingElement().getModifiers().contains(Modifier.FINAL);
+    }
+
+    /** While an object is made, neither it nor a row or an object of its fields goes to other code. */
+    private void requireNothingHandedOut(boolean isOwn, List<? extends ExpressionTree> arguments) {
         for (ExpressionTree argument : arguments) {
-            boolean isOwn = argument.toString().equals("this") || isField(argument);
-            require(!isMaking() || !isOwn, argument, "rule 12: a constructor hands out " + argument);
+            boolean isPart = argument instanceof IdentifierTree || argument instanceof MemberSelectTree;
+            Element e = isPart ? elementOf(argument) : null;
+            boolean isField = e != null && e.getKind() == ElementKind.FIELD
+                    && !e.getModifiers().contains(Modifier.STATIC) && !e.asType().getKind().isPrimitive();
+            boolean isThis = argument.toString().equals("this");
+            require(!isMaking() || !isThis && !(isOwn && isField), argument,
+                    "rule 12: a constructor hands out " + argument);
         }
     }
 
     @Override
     public Void visitBinary(BinaryTree tree, Void p) {
-        ExpressionTree right = tree.getRightOperand();
-        boolean isDivision = tree.getKind() == Tree.Kind.DIVIDE
-                || tree.getKind() == Tree.Kind.REMAINDER;
-        require(isNumber(tree.getLeftOperand()) && isNumber(right), tree,
-                "rules 6 and 10: " + tree + " is not of numbers");
-        require(!isDivision || right.toString().matches("[A-Z_]+|\\d+")
-                || DIVISORS.contains(right.toString()), tree, "rule 7: " + tree);
+        ExpressionTree a = tree.getLeftOperand();
+        ExpressionTree b = tree.getRightOperand();
+        switch (tree.getKind()) {
+            case PLUS:
+                require(!isText(a) && !isText(b), tree, "rule 10: " + tree);
+                break;
+            case EQUAL_TO: case NOT_EQUAL_TO:
+                require(!(isText(a) && isText(b)) && !(typeOf(a).equals("java.lang.Integer")
+                        && typeOf(b).equals("java.lang.Integer")), tree, "rule 6: " + tree);
+                break;
+            default:
+                break;
+        }
         return super.visitBinary(tree, p);
     }
 
     @Override
     public Void visitCompoundAssignment(CompoundAssignmentTree tree, Void p) {
-        boolean isDivision = tree.getKind() == Tree.Kind.DIVIDE_ASSIGNMENT
-                || tree.getKind() == Tree.Kind.REMAINDER_ASSIGNMENT;
-        require(!isDivision && isNumber(tree.getVariable()), tree, "rules 7 and 10: " + tree);
+        require(!isText(tree.getVariable()), tree, "rule 10: " + tree);
         return super.visitCompoundAssignment(tree, p);
     }
 
     @Override
-    public Void visitTypeCast(TypeCastTree tree, Void p) {
-        require(isNumber(tree.getType()) && isNumber(tree.getExpression()), tree, "rule 6: " + tree);
-        return super.visitTypeCast(tree, p);
-    }
-
-    @Override
     public Void visitForLoop(ForLoopTree tree, Void p) {
-        boolean isCounted = false;
-        if (tree.getInitializer().size() == 1 && tree.getUpdate().size() == 1
-                && tree.getInitializer().get(0) instanceof VariableTree counter) {
-            String i = counter.getName().toString();
-            String update = tree.getUpdate().get(0).toString();
-            isCounted = (update.equals(i + "++;") && hasBound(tree.getCondition(), i, "<")
-                    || update.equals(i + "--;") && hasBound(tree.getCondition(), i, ">"))
-                    && !isChangedIn(tree.getStatement(), i);
-        }
-        require(isCounted, tree, "rule 9: a loop without a counter: " + tree.getCondition());
+        requireEnd(tree, tree.getCondition());
         return super.visitForLoop(tree, p);
     }
 
     @Override
     public Void visitWhileLoop(WhileLoopTree tree, Void p) {
-        boolean isCounted = false;
-        if (tree.getStatement() instanceof BlockTree block && block.getStatements().size() == 1) {
-            StatementTree only = block.getStatements().get(0);
-            String i = only.toString().replace("++;", "");
-            isCounted = only.toString().endsWith("++;") && hasBound(tree.getCondition(), i, "<");
-        }
-        require(isCounted, tree, "rule 9: a loop without a counter: " + tree.getCondition());
+        requireEnd(tree, tree.getCondition());
         return super.visitWhileLoop(tree, p);
     }
 
-    /** Whether a condition, or a part that must hold with all others, keeps a counter in a bound. */
-    private static boolean hasBound(ExpressionTree condition, String counter, String sign) {
-        ExpressionTree plain = condition;
-        while (plain instanceof ParenthesizedTree inner) {
-            plain = inner.getExpression();
-        }
-        if (!(plain instanceof BinaryTree pair)) {
-            return false;
-        }
-        if (pair.getKind() == Tree.Kind.CONDITIONAL_AND) {
-            return hasBound(pair.getLeftOperand(), counter, sign)
-                    || hasBound(pair.getRightOperand(), counter, sign);
-        }
-        return plain.toString().startsWith(counter + " " + sign);
+    @Override
+    public Void visitDoWhileLoop(DoWhileLoopTree tree, Void p) {
+        requireEnd(tree, tree.getCondition());
+        return super.visitDoWhileLoop(tree, p);
     }
 
-    private static boolean isChangedIn(StatementTree body, String counter) {
-        boolean[] isChanged = {false};
-        new com.sun.source.util.TreeScanner<Void, Void>() {
-            @Override
-            public Void visitAssignment(AssignmentTree tree, Void p) {
-                note(tree.getVariable());
-                return super.visitAssignment(tree, p);
-            }
-
-            @Override
-            public Void visitCompoundAssignment(CompoundAssignmentTree tree, Void p) {
-                note(tree.getVariable());
-                return super.visitCompoundAssignment(tree, p);
-            }
-
-            @Override
-            public Void visitUnary(UnaryTree tree, Void p) {
-                if (tree.getKind().toString().contains("CREMENT")) {
-                    note(tree.getExpression());
-                }
-                return super.visitUnary(tree, p);
-            }
-
-            private void note(ExpressionTree variable) {
-                isChanged[0] |= variable instanceof IdentifierTree
-                        && variable.toString().equals(counter);
-            }
-        }.scan(body, null);
-        return isChanged[0];
+    /** Whether the end is far enough off or near enough can't be seen here, but that there is none can. */
+    private void requireEnd(Tree loop, ExpressionTree condition) {
+        require(condition != null && !condition.toString().matches("\\(*true\\)*"), loop,
+                "rule 9: a loop without an end");
     }
 
-    /** How many calls stand open at most from a method on, it and those of the library counted, too. */
-    private int depth(String from, List<String> open) {
+    /** How many calls stand open at most below a method; what comes to itself (rule 8) is left out. */
+    private int depthBelow(String from, List<String> open) {
         if (open.contains(from)) {
-            wrongs.add("rule 8: " + from + " comes to itself: " + open);
             return 0;
         }
         open.add(from);
         int deepest = 0;
         for (String to : calls.getOrDefault(from, Set.of())) {
-            deepest = Math.max(deepest, depth(to, open));
+            deepest = Math.max(deepest, 1 + depthBelow(to, open));
         }
         open.remove(open.size() - 1);
-        if (open.isEmpty() && deepest + 1 > MOST_DEPTH) {
-            wrongs.add("rule 11: " + from + " goes " + (deepest + 1) + " deep");
+        if (open.isEmpty() && deepest > MOST_DEPTH) {
+            wrongs.add("rule 11: calls go " + deepest + " deep below " + from);
         }
-        return deepest + 1;
+        return deepest;
     }
 }
